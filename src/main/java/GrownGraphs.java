@@ -11,7 +11,7 @@ public final class GrownGraphs {
     private static final int OPENS = 3;
     private static final int DONE_A = 3;
     private static final int DONE_B = 4;
-    /** A rule has three slots for edges; one that is not used bears this letter. */
+    /** A rule has three slots for edges; one that is not used bears this letter, so that all rules are worked alike. */
     private static final int MISSING = 5;
     private static final int LETTERS = 6;
     private static final int SLOTS = 3;
@@ -170,7 +170,8 @@ public final class GrownGraphs {
             origins.find(figure, book);
             originsStand = true;
         }
-        return orNone(origins.ofWhole(figure, open));
+        int steps = origins.ofWhole(figure, open);
+        return steps < FAR ? steps : NONE;
     }
 
     public int kinds(int open) {
@@ -180,7 +181,7 @@ public final class GrownGraphs {
         bringLights();
         int bits = 0;
         for (int kind = 0; kind < KINDS; kind++) {
-            if (lights.steps[open * KINDS + kind] < FAR) {
+            if (lights.reaches(open, kind)) {
                 bits |= 1 << kind;
             }
         }
@@ -195,8 +196,7 @@ public final class GrownGraphs {
             return OUTSIDE;
         }
         bringLights();
-        int state = open * KINDS + kind;
-        return what == 0 ? orNone(lights.steps[state]) : lights.firsts[state];
+        return what == 0 ? lights.stepsTo(open, kind) : lights.firstTo(open, kind);
     }
 
     public int count(int what) {
@@ -248,10 +248,6 @@ public final class GrownGraphs {
 
     private static boolean isOpen(int letter) {
         return letter >= 0 && letter < OPENS;
-    }
-
-    private static int orNone(int steps) {
-        return steps < FAR ? steps : NONE;
     }
 
     private void noteNewGraph() {
@@ -725,14 +721,28 @@ public final class GrownGraphs {
     /** How few steps lead from a letter to some done graph of a class, and which rule can come first. */
     private static final class Lights {
         private static final int STATES = LETTERS * KINDS;
+        /** Few rules can ask for very many steps; three of these and one more still fit a long. */
+        private static final long NEVER = 1L << 61;
 
         /** A state is 16 times a letter, and a class. */
-        final int[] steps = new int[STATES];
-        final int[] firsts = new int[STATES];
+        private final long[] steps = new long[STATES];
+        private final int[] firsts = new int[STATES];
         private final boolean[] settled = new boolean[STATES];
         /** The settled classes of each letter, as they came. */
         private final int[] settledKinds = new int[STATES];
         private final int[] settledCount = new int[LETTERS];
+
+        boolean reaches(int letter, int kind) {
+            return steps[letter * KINDS + kind] < NEVER;
+        }
+
+        int stepsTo(int letter, int kind) {
+            return reaches(letter, kind) ? (int) Math.min(steps[letter * KINDS + kind], Integer.MAX_VALUE) : NONE;
+        }
+
+        int firstTo(int letter, int kind) {
+            return firsts[letter * KINDS + kind];
+        }
 
         /** States settle from the least steps up: what is built of settled ones always takes more steps than they. */
         void find(RuleBook book) {
@@ -753,7 +763,7 @@ public final class GrownGraphs {
         }
 
         private void forget() {
-            Arrays.fill(steps, FAR);
+            Arrays.fill(steps, NEVER);
             Arrays.fill(firsts, NONE);
             Arrays.fill(settledCount, 0);
             for (int i = 0; i < STATES; i++) {
@@ -761,7 +771,7 @@ public final class GrownGraphs {
             }
         }
 
-        private void offer(int letter, int kind, int found, int first) {
+        private void offer(int letter, int kind, long found, int first) {
             int state = letter * KINDS + kind;
             if (found < steps[state]) {
                 steps[state] = found;
@@ -773,7 +783,7 @@ public final class GrownGraphs {
 
         private int nearest() {
             int best = NONE;
-            int least = FAR;
+            long least = NEVER;
             for (int i = 0; i < STATES; i++) {
                 if (!settled[i] && steps[i] < least) {
                     best = i;
@@ -803,7 +813,7 @@ public final class GrownGraphs {
                 int kind0 = slot == 0 ? kind : settledKind(rule, 0, i);
                 for (int j = 0; j < choices(rule, 1, slot); j++) {
                     int kind1 = slot == 1 ? kind : settledKind(rule, 1, j);
-                    int two = 1 + stepsIn(rule, 0, kind0) + stepsIn(rule, 1, kind1);
+                    long two = 1 + stepsIn(rule, 0, kind0) + stepsIn(rule, 1, kind1);
                     for (int k = 0; k < choices(rule, 2, slot); k++) {
                         int kind2 = slot == 2 ? kind : settledKind(rule, 2, k);
                         offer(rule.open, rule.kindFrom(kind0, kind1, kind2), two + stepsIn(rule, 2, kind2), number);
@@ -820,7 +830,7 @@ public final class GrownGraphs {
             return settledKinds[rule.slots[slot] * KINDS + i];
         }
 
-        private int stepsIn(Rule rule, int slot, int kind) {
+        private long stepsIn(Rule rule, int slot, int kind) {
             return steps[rule.slots[slot] * KINDS + kind];
         }
     }

@@ -13,6 +13,8 @@ import java.util.Random;
  */
 public final class OracleTest {
     private static final String LETTERS = "ABCab";
+    /** Rules that ask for very many steps: found by trying rules at random and keeping those that ask for more. */
+    private static final String LONG_WAY = "C=C10A01C10 B=C10C10C10 A=A01A01 C=b01a10 B=A21a01a02 A=B01B01B01 C=A21a12A20 B=C01B01 C=b01A21A21";
     private static final int MOST_STATES = 6000;
     private static final Checks c = new Checks();
     private static final Random random = new Random(1709);
@@ -22,7 +24,8 @@ public final class OracleTest {
     public static void main(String[] args) {
         int grammars = args.length > 0 ? Integer.parseInt(args[0]) : 400;
         findOneOfEachKind();
-        int longest = 0;
+        int longest = compareLights(LONG_WAY.split(" "));
+        c.due("the greatest LIGHT of the long way", longest, 117221422);
         for (int i = 0; i < grammars && c.clean(); i++) {
             String[] rules = someRules();
             longest = Math.max(longest, compareLights(rules));

@@ -419,6 +419,8 @@ public final class PromisesTest {
         fewest(x, "a02a21", NONE, NONE, 1);
         c.due("drop(5)", x.drop(5), 5);
         c.due("fewest(2) without the rule", x.fewest(2), NONE);
+        c.due("rule() again", Checks.rule(x, "C=a02a21"), 5);
+        c.due("fewest(2) with the rule again", x.fewest(2), 1);
         GrownGraphs chains = Checks.withRules("A=B10", "B=C10", "C=A10", "C=a01", "A=A01");
         fewest(chains, "a01", 3, 5, 1);
         fewest(chains, "a10", 6, 2, 4);
