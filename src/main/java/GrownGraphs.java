@@ -635,6 +635,7 @@ public final class GrownGraphs {
 
         /** Only a rule with one edge asks for the same set again: more rounds are for these alone. */
         private boolean improve(Figure whole, int set, RuleBook book, boolean singlesOnly) {
+            int most = singlesOnly ? 1 : Integer.bitCount(set);
             boolean better = false;
             for (int source = 0; source < whole.nodes; source++) {
                 for (int target = 0; target < whole.nodes; target++) {
@@ -645,7 +646,7 @@ public final class GrownGraphs {
                     stand[1] = target;
                     for (int i = 0; i < book.size; i++) {
                         Rule rule = book.rules[i];
-                        if (!singlesOnly || rule.body.size == 1) {
+                        if (rule.body.size <= most) {
                             better |= lower(at(rule.open, set, source, target), 1 + byRule(whole, set, rule));
                         }
                     }
@@ -665,21 +666,22 @@ public final class GrownGraphs {
         /** The ends of the rule have their nodes; its inner ones get theirs in every way. */
         private int byRule(Figure whole, int set, Rule rule) {
             int least = FAR;
-            for (int pair = 0; pair < PAIRS; pair++) {
-                stand[2] = pair / TOLD_NODES;
-                stand[3] = pair % TOLD_NODES;
-                if (standsWell(rule.body.nodes)) {
-                    least = Math.min(least, bySplit(whole, set, rule));
+            int nodes = rule.body.nodes;
+            int thirds = nodes > 2 ? whole.nodes : 1;
+            int fourths = nodes > 3 ? whole.nodes : 1;
+            for (int third = 0; third < thirds; third++) {
+                stand[2] = third;
+                for (int fourth = 0; fourth < fourths; fourth++) {
+                    stand[3] = fourth;
+                    if (standsApart(nodes)) {
+                        least = Math.min(least, bySplit(whole, set, rule));
+                    }
                 }
             }
             return least;
         }
 
-        /** All nodes of the rule stand for unlike ones; those that it does not have stand for 0, to be counted once. */
-        private boolean standsWell(int nodes) {
-            if (nodes < 4 && stand[3] != 0 || nodes < 3 && stand[2] != 0) {
-                return false;
-            }
+        private boolean standsApart(int nodes) {
             boolean third = nodes < 3 || stand[2] != stand[0] && stand[2] != stand[1];
             boolean fourth = nodes < 4 || stand[3] != stand[0] && stand[3] != stand[1] && stand[3] != stand[2];
             return third && fourth;
