@@ -1,4 +1,5 @@
 import java.util.ArrayList;
+import java.util.Arrays;
 import java.util.List;
 import java.util.function.Supplier;
 
@@ -22,6 +23,7 @@ public final class GrowthBoundsTest {
         kindsOfNone();
         kindsOfEachBit();
         kindsRefuses();
+        kindsAndLightFollowRules();
         lightOfNone();
         lightOfOneStep();
         lightIsNotBoundByAGraphsSize();
@@ -236,6 +238,25 @@ public final class GrowthBoundsTest {
         fewest(y, "a02b21", 5, 6, 1);
         fewest(y, "b21a02", 5, 6, 1);
         fewest(y, "a12b20", 2, 3, 4);
+        for (String[] rules : inEachOrder("C=B01", "B=A01", "A=C10", "A=a01")) {
+            fewest(Checks.withRules(rules), "a01", 1, 2, 3);
+            fewest(Checks.withRules(rules), "a10", 4, 5, 6);
+        }
+        for (String[] rules : inEachOrder("C=B10", "B=A10", "A=C10", "A=a02b21")) {
+            fewest(Checks.withRules(rules), "a02b21", 1, 5, 3);
+            fewest(Checks.withRules(rules), "a12b20", 4, 2, 6);
+        }
+    }
+
+    private static List<String[]> inEachOrder(String... rules) {
+        List<String[]> orders = new ArrayList<>();
+        for (int order = 0; order < 256; order++) {
+            int[] at = {order & 3, order >> 2 & 3, order >> 4 & 3, order >> 6};
+            if ((1 << at[0] | 1 << at[1] | 1 << at[2] | 1 << at[3]) == 15) {
+                orders.add(new String[] {rules[at[0]], rules[at[1]], rules[at[2]], rules[at[3]]});
+            }
+        }
+        return orders;
     }
 
     private static void fewestFollowsRulesAndGraph() {
@@ -283,6 +304,9 @@ public final class GrowthBoundsTest {
             c.due("kind() of " + bodies[kind - 1], x.kind(), kind);
         }
         c.due("kinds(0) of class 0", Checks.withRules("A=B02C12", "B=a02a12", "C=a02a01a21").kinds(0), 1);
+        GrownGraphs next = Checks.withRules("B=A02C12", "A=a02a12", "C=a02a01a21");
+        c.due("kinds(1) of class 0", next.kinds(1), 1);
+        c.due("kinds(0) ahead of it", next.kinds(0), 1 << 4);
         GrownGraphs all = Checks.withRules("A=a01", "A=b01", "A=A10", "A=A02A21", "A=A01A01", "A=A02A12");
         c.due("kinds(0) of many rules", all.kinds(0), 0xffff);
     }
@@ -295,6 +319,24 @@ public final class GrowthBoundsTest {
         }
         for (int far : Checks.FAR_OFF) {
             c.refuses("kinds(" + far + ")", made, x -> x.kinds(far), Checks.UNKNOWN);
+        }
+    }
+
+    /** What was found with other rules is forgotten, whichever classes there were: as if all had been told anew. */
+    private static void kindsAndLightFollowRules() {
+        String[] rules = {"A=a01", "A=b01", "A=A10", "A=A02A21", "A=A01A01", "A=A02A12", "B=A01", "C=B01"};
+        GrownGraphs x = new GrownGraphs();
+        for (int many = 1; many <= rules.length; many++) {
+            Checks.rule(x, rules[many - 1]);
+            c.due("all that is told with " + many + " rules", Checks.allOf(x), Checks.allOf(Checks.withRules(Arrays.copyOf(rules, many))));
+        }
+        for (int open = 0; open < 3; open++) {
+            c.due("kinds(" + open + ") of all", x.kinds(open), 0xffff);
+        }
+        for (int many = rules.length - 1; many >= 0; many--) {
+            x.drop(many);
+            c.due("all that is told with " + many + " rules left", Checks.allOf(x),
+                    Checks.allOf(Checks.withRules(Arrays.copyOf(rules, many))));
         }
     }
 
