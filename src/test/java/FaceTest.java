@@ -14,6 +14,7 @@ public final class FaceTest {
     public static void main(String[] args) throws Exception {
         face();
         fields();
+        classesInside();
         words();
         c.end("FaceTest");
     }
@@ -46,6 +47,28 @@ public final class FaceTest {
             c.holds(field + " is private or a constant", isPrivate || field.toString().startsWith("public static final int GrownGraphs."));
         }
         c.due("public constants", constants, 5);
+    }
+
+    /** LANGUAGE.md 1, 2, 8 and 11, as far as the compiled class tells them. */
+    private static void classesInside() {
+        Class<?>[] inside = GrownGraphs.class.getDeclaredClasses();
+        c.holds("there are at most twelve classes", inside.length + 1 <= 12);
+        TreeSet<String> face = new TreeSet<>();
+        for (Method method : GrownGraphs.class.getMethods()) {
+            face.add(method.getName());
+        }
+        for (Class<?> own : inside) {
+            c.holds(own + " is static and not public", Modifier.isStatic(own.getModifiers()) && !Modifier.isPublic(own.getModifiers()));
+            long fields = java.util.Arrays.stream(own.getDeclaredFields()).filter(f -> !Modifier.isStatic(f.getModifiers())).count();
+            c.holds(own + " has at most twenty fields", fields <= 20);
+            for (Field field : own.getDeclaredFields()) {
+                c.holds(field + " is final if it is static", !Modifier.isStatic(field.getModifiers()) || Modifier.isFinal(field.getModifiers()));
+            }
+            for (Method method : own.getDeclaredMethods()) {
+                c.holds(method + " bears no name of the face", !face.contains(method.getName()));
+                c.holds(method + " has at most seven parameters", method.getParameterCount() <= 7);
+            }
+        }
     }
 
     private static void words() throws Exception {

@@ -13,8 +13,11 @@ import java.util.Random;
  */
 public final class OracleTest {
     private static final String LETTERS = "ABCab";
-    /** Rules that ask for very many steps: found by trying rules at random and keeping those that ask for more. */
-    private static final String LONG_WAY = "C=C10A01C10 B=C10C10C10 A=A01A01 C=b01a10 B=A21a01a02 A=B01B01B01 C=A21a12A20 B=C01B01 C=b01A21A21";
+    /**
+     * Rules that ask for very many steps: found by trying rules at random and keeping those that ask for more. Many
+     * such searches ended at just this LIGHT. Three of it do not fit an int, so sums in ints would be found out.
+     */
+    private static final String LONG_WAY = "A=B01B01B01 B=C01C01C01 C=b01a21a02 C=A21A20a20 C=a21A12a20 C=A23A13A01 C=b02C01a10 C=A02A10A21 C=b10A23A30";
     private static final int MOST_STATES = 6000;
     private static final Checks c = new Checks();
     private static final Random random = new Random(1709);
@@ -25,7 +28,7 @@ public final class OracleTest {
         int grammars = args.length > 0 ? Integer.parseInt(args[0]) : 400;
         findOneOfEachKind();
         int longest = compareLights(LONG_WAY.split(" "));
-        c.due("the greatest LIGHT of the long way", longest, 117221422);
+        c.due("the greatest LIGHT of the long way", longest, 1354875340);
         for (int i = 0; i < grammars && c.clean(); i++) {
             String[] rules = someRules();
             longest = Math.max(longest, compareLights(rules));
